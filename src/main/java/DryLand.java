@@ -140,10 +140,7 @@ public final class DryLand {
     }
 
     public int tooMany(int doctor, int i) {
-        if (!slips.hasDoctor(doctor) || i < -1) {
-            return UNKNOWN;
-        }
-        return slips.tooManyOf(doctor, i);
+        return slips.hasDoctor(doctor) ? slips.tooManyOf(doctor, i) : UNKNOWN;
     }
 
     // ---- 4 nights
@@ -493,7 +490,6 @@ public final class DryLand {
         int drop(int k) {
             boolean had = lanes[k] != NOTHING;
             lanes[k] = NOTHING;
-            lengths[k] = 0;
             return had ? 1 : 0;
         }
 
@@ -704,7 +700,8 @@ public final class DryLand {
 
         int firstStop(int verb, int kind, int strength, int who, int day) {
             for (int l = 0; l < count; l++) {
-                if (lines[l].halts(verb, kind, strength, who, day)) {
+                Line told = lines[l];
+                if (told != null && told.halts(verb, kind, strength, who, day)) {
                     return l;
                 }
             }
@@ -714,7 +711,8 @@ public final class DryLand {
         int inForce(int day) {
             int found = 0;
             for (int l = 0; l < count; l++) {
-                if (lines[l].isInForce(day)) {
+                Line told = lines[l];
+                if (told != null && told.isInForce(day)) {
                     found++;
                 }
             }

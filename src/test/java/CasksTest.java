@@ -163,6 +163,11 @@ public final class CasksTest {
         Check.due("hang", x.hang(-1), DryLand.UNKNOWN);
         Check.due("hang", x.hang(3), DryLand.UNKNOWN);
         traced(x, trace);
+        DryLand y = new DryLand();
+        y.person();
+        y.cask(1, 3);
+        y.drank(0, 0, 0);
+        Check.due("tell with one fact", y.tell(0), 4);
     }
 
     private static int traced(DryLand x, int before, int... bodies) {

@@ -122,8 +122,9 @@ public final class CourtsTest {
         Check.due("dismiss", x.dismiss(), 0);
         Check.due("how many", x.many(11), 0);
         Check.due("jury of none", x.jury(0, 0), DryLand.LOST);
-        x.juror(3, 3);
-        share(x, 0, 1, 1);
+        x.juror(1, 3);
+        share(x, 0, 1, 3);
+        share(x, 1, 2, 3);
     }
 
     private static void juries() {

@@ -145,6 +145,10 @@ public final class LinesTest {
         ask(x, 0, 1, 0, 7, -13, 3);
         ask(x, 0, 1, 0, 6, DryLand.FULL, 0);
         Check.due("how many", x.many(0), 24);
+        Check.due("the last line", x.line(23, 4), 9);
+        Check.due("behind the last line", x.line(24, 4), DryLand.UNKNOWN);
+        Check.due("behind the last line", x.strike(24, 0), DryLand.UNKNOWN);
+        Check.due("force", x.force(9), 24);
     }
 
     private static void ask(DryLand x, int sheet, int lane, int i, int n, int want, int fault) {

@@ -61,6 +61,11 @@ public final class StepsTest {
             x.step(s, s + 1, 3, 0, 0, 0);
         }
         way(x, 99, 10, 9, 8, 7, 6, 5, 4, 3, 2, 1, 0);
+        DryLand y = new DryLand();
+        for (int s = 0; s <= 10; s++) {
+            y.step(s, s + 1, 3, 0, 0, 0);
+        }
+        way(y, 0, 0, 1, 2, 3, 4, 5, 6, 7, 8, 9, 10);
     }
 
     private static void way(DryLand x, int day, int... steps) {

@@ -7,8 +7,8 @@ import java.util.Random;
 
 /** Wild arguments in wild states: no call throws, and the same calls give the same answers. */
 public final class WildTest {
-    private static final int[] EDGES = {Integer.MIN_VALUE, -2, -1, 0, 1, 2, 3, 4, 9, 11, 12, 24, 31, 59, 60, 61, 99, 100,
-        600, 601, 999, 1000, Integer.MAX_VALUE - 1, Integer.MAX_VALUE};
+    private static final int[] EDGES = {Integer.MIN_VALUE, -2, -1, 0, 1, 2, 3, 4, 9, 11, 12, 24, 31, 59, 60, 61, 99,
+        100, 600, 601, 999, 1000, Integer.MAX_VALUE - 1, Integer.MAX_VALUE};
 
     public static void main(String[] args) throws Exception {
         List<Method> methods = new ArrayList<>();
