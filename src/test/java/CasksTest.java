@@ -27,6 +27,16 @@ public final class CasksTest {
         Check.due("persons", x.many(6), 12);
         Check.due("all sets", x.cut(0, 0), 4096);
         Check.due("the empty one", x.cut(0, 1), 0);
+        for (int k = 0; k < 12; k++) {
+            x.drank(k, k, 0);
+            x.fell(k, k != 3, 0);
+        }
+        Check.due("one set", x.cut(0, 0), 1);
+        Check.due("its size", x.cut(0, 1), 11);
+        Check.due("in all", x.cut(0, 2), 4095 - 8);
+        Check.due("ill", x.cut(0, 4), 4095 - 8);
+        Check.due("well", x.cut(0, 5), 8);
+        Check.due("knew", x.knew(11), 0);
     }
 
     private static void facts() {

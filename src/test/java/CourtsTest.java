@@ -50,6 +50,13 @@ public final class CourtsTest {
         Check.due("sue 30", x.sue(1, 0, 0), DryLand.FULL);
         Check.due("sue 30", x.sue(0, 0, 0), DryLand.OUTSIDE);
         Check.due("how many", x.many(9), 30);
+        DryLand y = new DryLand();
+        for (int c = 0; c < 30; c++) {
+            y.sue(20, 7, 0);
+        }
+        Check.due("all on one day", y.court(1, 600), 30);
+        Check.due("all on one day", y.waiting(7), 0);
+        Check.due("all on one day", y.heard(29, 3), 7);
     }
 
     private static void parts(DryLand x, int c, int... want) {

@@ -76,6 +76,8 @@ public final class NightsTest {
         Check.due("truck 12", x.truck(11, -1, 0, 2, 4, 12), DryLand.FULL);
         Check.due("truck 12", x.truck(11, -1, 0, 2, 3, 12), DryLand.OUTSIDE);
         Check.due("how many", x.many(4), 12);
+        Check.due("an agent behind all trucks", x.agent(0, 2, 4, 1), 0);
+        Check.due("the last truck meets it", x.meets(11), 1);
         told(x);
     }
 

@@ -42,6 +42,8 @@ public final class SlipsTest {
         Check.due("slip 40", x.slip(0, 7, 100), DryLand.OUTSIDE);
         Check.due("twice", x.twice(), 3);
         Check.due("how many", x.many(2), 40);
+        Check.due("all but three on day 0", x.tooMany(0, -1), 1);
+        Check.due("the other doctor", x.tooMany(1, -1), 0);
     }
 
     private static void tooMany() {
