@@ -103,6 +103,10 @@ public final class DryLand {
         if (!isDay(day)) {
             return OUTSIDE;
         }
+        // Below -1 nothing is asked for that NONE could answer, so it is refused with or without a way.
+        if (i < -1) {
+            return UNKNOWN;
+        }
         int length = ways.findLeast(act, day);
         if (length == NONE || i == -1) {
             return length;

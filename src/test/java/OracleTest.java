@@ -127,6 +127,7 @@ public final class OracleTest {
             way = wayOf(0, length, open, steps);
         }
         Check.due("least", x.least(day, -1), way == null ? DryLand.NONE : way.size());
+        Check.due("least -2", x.least(day, -2), DryLand.UNKNOWN);
         for (int i = 0; way != null && i < way.size(); i++) {
             Check.due("least " + i, x.least(day, i), way.get(i));
         }

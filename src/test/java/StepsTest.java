@@ -21,15 +21,15 @@ public final class StepsTest {
         Check.due("step 24", x.step(11, 0, 3, 3, 99, 4), DryLand.FULL);
         Check.due("step 24", x.step(11, 11, 3, 3, 99, 4), DryLand.OUTSIDE);
         Check.due("how many", x.many(1), 24);
-        Check.due("only backwards", x.least(0, -1), DryLand.NONE);
+        noWay(x, 0);
     }
 
     private static void least() {
         DryLand x = new DryLand();
-        // Where there is no way, that is the answer, whichever step is asked for.
-        for (int i = -2; i <= 2; i++) {
-            Check.due("no way", x.least(0, i), DryLand.NONE);
-        }
+        noWay(x, 0);
+        noWay(x, 99);
+        Check.due("no way, no day", x.least(-1, -2), DryLand.OUTSIDE);
+        Check.due("no way, no day", x.least(100, 0), DryLand.OUTSIDE);
         x.step(0, 1, 0, 0, 0, 4);
         x.step(1, 11, 1, 0, 0, 4);
         x.step(0, 2, 0, 1, 0, 4);
@@ -46,7 +46,7 @@ public final class StepsTest {
         Check.tell(x, "m1@13-13");
         way(x, 13, 4, 1);
         Check.tell(x, "s0@13-13");
-        Check.due("all stopped", x.least(13, -1), DryLand.NONE);
+        noWay(x, 13);
         way(x, 14, 2, 3);
         x.strike(0, 14);
         way(x, 14, 5);
@@ -66,6 +66,15 @@ public final class StepsTest {
             y.step(s, s + 1, 3, 0, 0, 0);
         }
         way(y, 0, 0, 1, 2, 3, 4, 5, 6, 7, 8, 9, 10);
+    }
+
+    /** Each step that may be asked for is none; below -1 no step is asked for. */
+    private static void noWay(DryLand x, int day) {
+        for (int i = -1; i <= 12; i++) {
+            Check.due("no way on " + day + " " + i, x.least(day, i), DryLand.NONE);
+        }
+        Check.due("no way on " + day + " -2", x.least(day, -2), DryLand.UNKNOWN);
+        Check.due("no way on " + day + ", far off", x.least(day, Integer.MIN_VALUE), DryLand.UNKNOWN);
     }
 
     private static void way(DryLand x, int day, int... steps) {
