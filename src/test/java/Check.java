@@ -1,7 +1,11 @@
+import java.util.TreeSet;
+
 /** What the tests share: a count of wrong answers, and texts put to sheets. */
 final class Check {
+    private static final TreeSet<Integer> PROMISES = new TreeSet<>();
     private static int wrong = 0;
     private static int looked = 0;
+    private static String sentence = "";
 
     private Check() {
     }
@@ -10,12 +14,26 @@ final class Check {
         looked++;
         if (got != want) {
             wrong++;
-            System.out.println(call + " answered " + got + ", due is " + want);
+            System.out.println(sentence + call + " answered " + got + ", due is " + want);
         }
     }
 
     static void holds(String what, boolean is) {
         due(what, is ? 1 : 0, 1);
+    }
+
+    /** From here on it is this sentence of the document, in its own words, that is looked at. */
+    static void says(int promise, String words) {
+        PROMISES.add(promise);
+        sentence = "Promise " + promise + " (" + words + "): ";
+    }
+
+    /** None of these promises may have been left out by a test that goes sentence by sentence. */
+    static void covers(int first, int last) {
+        sentence = "";
+        for (int promise = first; promise <= last; promise++) {
+            holds("promise " + promise + " is looked at", PROMISES.contains(promise));
+        }
     }
 
     static void end() {
