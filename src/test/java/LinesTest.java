@@ -26,7 +26,7 @@ public final class LinesTest {
         for (int k = 0; k < 4; k++) {
             Check.due("new: sheet " + k, x.lose(k), 0);
         }
-        // One judge of 300 minutes: the second case of 151 waits a day.
+        // One judge of 300 minutes: one minute more waits a day, a case of 301 waits for ever.
         Check.due("new: sue", x.sue(300, 0, 0), 0);
         Check.due("new: sue", x.sue(301, 0, 0), 1);
         Check.due("new: sue", x.sue(1, 0, 0), 2);

@@ -90,6 +90,7 @@ public final class StepsBoundsTest {
         Check.due("how many", x.least(day, -1), DryLand.NONE);
         Check.due("the first", x.least(day, 0), DryLand.NONE);
         Check.due("the last there could be", x.least(day, 10), DryLand.NONE);
+        Check.due("a place that no way has", x.least(day, Integer.MAX_VALUE), DryLand.NONE);
         Check.due("no place", x.least(day, -2), DryLand.UNKNOWN);
         Check.due("no place", x.least(day, Integer.MIN_VALUE), DryLand.UNKNOWN);
     }
